@@ -271,7 +271,14 @@ public final class PromisesTest {
         dueCells("5: and back", b, 0, 3, 3, "##./##./.../");
         due("5: empty to full", b.invert(1), 576);
         due("5: full has one rectangle", b.rectangle(1, 0), packed(0, 0, 23, 23));
+        b.box(2, BandRegion.UNION, 0, WHOLE);
+        due("5: inverted is the same as filled", b.same(1, 2), true);
+        due("5: nothing beyond the screen", b.move(1, -1, 0), 552);
+        due("5: the column left free", b.invert(1), 24);
+        due("5: the column left free, place", b.around(1), packed(23, 0, 23, 23));
+        b.combine(1, 2, 2, BandRegion.UNION);
         due("5: full to empty", b.invert(1), 0);
+        due("5: full to empty, another one", b.invert(2), 0);
         due("5: another region", b.area(2), 0);
         for (int bad : BAD_REGIONS) {
             due("5: bad region", b.invert(bad), BandRegion.BAD_REGION);
@@ -467,6 +474,30 @@ public final class PromisesTest {
         }
     }
 
+    private static void askEverything(BandRegion b) {
+        for (int r = -1; r <= 3; r++) {
+            b.area(r);
+            b.has(r, 3, 3);
+            b.rectangles(r);
+            b.rectangle(r, 1);
+            b.around(r);
+            b.same(r, 1);
+            b.covers(r, corner(2, 2), size(9, 9));
+        }
+    }
+
+    private static void askingChangesNothing() {
+        BandRegion b = banded();
+        b.combine(0, 1, 1, BandRegion.UNION);
+        add(b, 2, 3, 3, 1, 1);
+        askEverything(b);
+        due("6 to 12: copy stays", b.same(0, 1), true);
+        due("6 to 12: region 0 stays", b.area(0), 29);
+        due("6 to 12: region 2 stays", b.around(2), packed(3, 3, 3, 3));
+        due("6 to 12: rectangles stay", b.rectangles(1), 4);
+        due("6 to 12: a later change", b.combine(0, 0, 2, BandRegion.SUBTRACT), 28);
+    }
+
     public static void main(String[] args) {
         newObject();
         boxKinds();
@@ -490,6 +521,7 @@ public final class PromisesTest {
         around();
         same();
         covers();
+        askingChangesNothing();
         System.exit(wrong == 0 ? 0 : 1);
     }
 }
